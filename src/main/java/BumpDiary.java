@@ -993,7 +993,7 @@ public final class BumpDiary {
         }
 
         int moveOf(int to, int k) {
-            if (k < 0 || k >= lengths[to]) {
+            if (to < 0 || to >= MAX_BOARDS || k < 0 || k >= lengths[to]) {
                 return NONE;
             }
             return rows[to] >> DIGIT_BITS * (lengths[to] - 1 - k) & DIGIT_MASK;
@@ -1141,25 +1141,30 @@ public final class BumpDiary {
         }
 
         boolean isNothing(int k) {
-            return lanes[k] == NOTHING;
+            return !has(k) || lanes[k] == NOTHING;
         }
 
         void clear(int k) {
-            lanes[k] = NOTHING;
-            lengths[k] = 0;
+            if (has(k)) {
+                lanes[k] = NOTHING;
+                lengths[k] = 0;
+            }
         }
 
         void renew(int k, int lane, int n) {
+            if (!has(k) || n < 0 || n > MAX_CELLS) {
+                return;
+            }
             lanes[k] = lane;
             lengths[k] = n;
-            for (int i = 0; i < n && i < MAX_CELLS; i++) {
+            for (int i = 0; i < n; i++) {
                 cells[k * MAX_CELLS + i] = 0;
             }
         }
 
         /** Whether there are n cells from i on, and a place i even if n is 0. */
         boolean hasCells(int k, int i, int n) {
-            return i >= 0 && i <= lengths[k] && n <= lengths[k] - i;
+            return has(k) && i >= 0 && i <= lengths[k] && n <= lengths[k] - i;
         }
 
         void write(int k, int i, int v) {

@@ -164,6 +164,9 @@ public final class HouseTest {
         refused(x, 3, 0, MIN, MAX, -13, 3);
         refused(x, 3, 0, 28, 0, -100, 0);
         refused(x, 3, 0, 0, 0, -100, 0);
+        Check.due("as many cells as a sheet can have", x.sheet(0, 0, 60), 1);
+        Check.due("house of 60 cells", x.house(0, 0, 0, 60), -100);
+        Check.due("house of 61 cells", x.house(0, 0, 0, 61), -13);
         Check.due("state after refusals", Check.stateOf(x), state);
     }
 

@@ -9,7 +9,7 @@ import java.util.Random;
 
 /** All promises: runs of calls, the same each time, whose answers must be the model's. */
 public final class RandomRunsTest {
-    private static final int RUNS = 1500;
+    private static final int RUNS = 600;
     private static final int CALLS = 512;
     private static final int[] FAR = {Integer.MIN_VALUE, Integer.MAX_VALUE, -1000, 1000, Integer.MIN_VALUE + 1, 1 << 30};
 

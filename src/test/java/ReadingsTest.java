@@ -112,6 +112,11 @@ public final class ReadingsTest {
         Check.due("weights(1)", x.weights(1), 15);
         Check.due("kinds(1)", x.kinds(1), 6);
         Check.due("creaks(4)", x.creaks(4), 7);
+        BumpDiary y = Check.housed(HOUSE);
+        Check.due("reading at the other pen", y.reading(1, 4, 1, 3), 0);
+        Check.due("weights(1)", y.weights(1), 1 << 3);
+        y.carry(0, 4);
+        Check.due("weights(1), a pen that nothing is read of is carried", y.weights(1), 1 << 3);
     }
 
     private static void allReadingsMustBeSo() {

@@ -38,7 +38,11 @@ public final class SheetsTest {
         Check.due("an empty row's cell", x.cell(1, 0, 0), LOST);
         Check.due("fault", x.fault(), 3);
         Check.due("longer again", x.sheet(1, 1, 60), 1);
+        Check.due("all is 0 anew", x.cell(1, 0, 1), 0);
         Check.due("all is 0 anew", x.cell(1, 59, 1), 0);
+        Check.due("the first cell is set", x.put(1, 0, 7), 1);
+        Check.due("of like lane and length", x.sheet(1, 1, 60), 1);
+        Check.due("the first cell is 0 anew", x.cell(1, 0, 1), 0);
         Check.due("sheet(4, 3, 61)", x.sheet(4, 3, 61), -1);
         Check.due("sheet(-1, 0, 0)", x.sheet(-1, 0, 0), -1);
         Check.due("sheet(0, 3, -1)", x.sheet(0, 3, -1), -2);

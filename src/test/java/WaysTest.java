@@ -78,6 +78,12 @@ public final class WaysTest {
         Check.due("leap", x.leap(0), 3);
         Check.due("meet on 2", x.meet(0, 1, 0), 2);
         Check.due("meet, bumps", x.meet(1, 0, 1), 1);
+        BumpDiary mid = Check.housed("s9101;w02;w22,0,2");
+        Check.due("meet in the midst", mid.meet(0, 1, 0), 1);
+        Check.due("meet in the midst, bumps", mid.meet(0, 1, 1), 4);
+        BumpDiary last = Check.housed("s000000000;w00;w79,7");
+        Check.due("meet on the last of eight", last.meet(0, 1, 0), 7);
+        Check.due("meet on the last of eight, bumps", last.meet(0, 1, 1), 0);
         long state = Check.stateOf(x);
         Check.due("one with oneself", x.meet(1, 1, 5), -1);
         Check.due("meet(0, 2, 5)", x.meet(0, 2, 5), -1);
@@ -182,6 +188,8 @@ public final class WaysTest {
         Check.fill(x, 0, 2, 5, MAX, MIN, MIN, MAX, 5);
         Check.due("joins from 1 on", x.joins(0, 2, 1, 2, 0), 2);
         Check.due("joins from 1 on", x.joins(0, 2, 1, 2, 10), 0);
+        Check.due("joins of one page", x.joins(0, 2, 0, 1, 0), 1);
+        Check.due("joins that there are none of", x.joins(0, 2, 0, 3, 10), -9);
     }
 
     private static void refusalsOfJoins() {
