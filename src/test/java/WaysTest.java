@@ -126,6 +126,9 @@ public final class WaysTest {
         fit(three, new int[] {4, 4, 5}, 4, 0, 0, 3, 0);
         fit(three, new int[] {5, 5, 5, 5}, 1, 0, 4, 4, 4, 4);
         fit(three, new int[] {6}, 0, -9);
+        BumpDiary still = Check.housed("s000;w00,0");
+        fit(still, new int[] {0}, 2, 0, 1);
+        fit(still, new int[] {0, 0, 0, 0}, 16, 0, 1, 0, 1, 0);
         Check.fill(three, 0, 2, 9, 5, 4, 9);
         Check.due("fits from 1 on", three.fits(0, 0, 2, 1, 2, 0), 2);
     }
