@@ -31,6 +31,7 @@ public final class RulesTest {
         classesInside();
         List<String> lines = Files.readAllLines(Path.of(System.getProperty("bumpdiary.source")));
         bannedWords(lines);
+        libraryIsListed(lines);
         objectsAreMadeOnce(lines);
         shortMethods(lines);
         aNewObjectIsSmall();
@@ -70,7 +71,15 @@ public final class RulesTest {
         Check.holds("the class is public and final", Modifier.isPublic(kind) && Modifier.isFinal(kind));
     }
 
+    private static long fieldsOf(Class<?> c) {
+        return Arrays.stream(c.getDeclaredFields()).filter(f -> !Modifier.isStatic(f.getModifiers())).count();
+    }
+
     private static void classesInside() {
+        Check.holds("BumpDiary has some twenty fields at most", fieldsOf(BumpDiary.class) <= 20);
+        for (Method m : BumpDiary.class.getDeclaredMethods()) {
+            Check.holds(m + " has seven parameters at most", m.getParameterCount() <= 7);
+        }
         Class<?>[] inside = BumpDiary.class.getDeclaredClasses();
         Check.holds("some twelve classes at most", inside.length <= 12);
         Set<String> names = new TreeSet<>();
@@ -79,8 +88,7 @@ public final class RulesTest {
         }
         for (Class<?> c : inside) {
             Check.holds(c + " is static", Modifier.isStatic(c.getModifiers()));
-            long fields = Arrays.stream(c.getDeclaredFields()).filter(f -> !Modifier.isStatic(f.getModifiers())).count();
-            Check.holds(c + " has some twenty fields at most", fields <= 20);
+            Check.holds(c + " has some twenty fields at most", fieldsOf(c) <= 20);
             for (Method m : c.getDeclaredMethods()) {
                 Check.holds(m + " has seven parameters at most", m.getParameterCount() <= 7);
                 Check.holds(m + " bears no public name", !names.contains(m.getName()));
@@ -102,6 +110,18 @@ public final class RulesTest {
                     ? Pattern.compile("\\b" + Pattern.quote(word) + "\\b|" + Pattern.quote(word) + "\\(").matcher(code).find()
                     : code.contains(word);
                 Check.holds("without " + word + ": " + line, !found);
+            }
+        }
+    }
+
+    /** Of the library the class uses these alone, which LANGUAGE.md lists. */
+    private static void libraryIsListed(List<String> lines) {
+        Set<String> listed = Set.of("Math.max", "Math.min", "Math.abs", "System.arraycopy", "Long.MIN_VALUE");
+        Pattern use = Pattern.compile("\\b[A-Z]\\w*\\.\\w+");
+        for (String line : lines) {
+            Matcher m = use.matcher(withoutComment(line));
+            while (m.find()) {
+                Check.holds(m.group() + " is listed", listed.contains(m.group()));
             }
         }
     }
